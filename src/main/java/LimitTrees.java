@@ -20,10 +20,12 @@ public final class LimitTrees {
     private static final int MOST_LOAD = 9999;
     private static final int MOST_WAY = 9999;
 
-    // No net of p posts and 14 lines has more trees than (28 / (p - 1)) ^ (p - 1) / p (the product
-    // of the roots of its Laplacian is greatest if they are alike): 2048 for 8 posts, less for fewer.
-    private static final int PLACE_BITS = 11;
-    private static final int MOST_TREES = 1 << PLACE_BITS;
+    // Rows of bits, one for each set of lines, are kept in longs.
+    private static final int WORD_BITS = 6;
+    private static final int WORDS = 1 << MOST_LINES - WORD_BITS;
+
+    // No net of 14 lines and at most 8 posts has more trees: MostTreesTest goes through them all.
+    private static final int MOST_TREES = 1280;
 
     private static final int DEGREES_BIT = 1;
     private static final int DEPTH_BIT = 2;
@@ -47,9 +49,8 @@ public final class LimitTrees {
         limits = new Limits();
         shape = new Shape(net);
         list = new TreeList(net);
-        int[] spare = new int[MOST_TREES];
-        goods = new GoodTrees(spare);
-        route = new Route(goods, spare);
+        goods = new GoodTrees(net, limits, list);
+        route = new Route(list, goods);
         startAnew(FEWEST_POSTS);
     }
 
@@ -85,7 +86,7 @@ public final class LimitTrees {
             return false;
         }
         net.price[e] = n;
-        goods.forget();
+        forgetMeasures();
         return true;
     }
 
@@ -93,7 +94,7 @@ public final class LimitTrees {
         if (!net.hasPost(v) || !within(n, 0, MOST_DEGREE)) {
             return false;
         }
-        limits.degree[v] = n;
+        limits.setDegree(v, n);
         goods.forget();
         return true;
     }
@@ -112,7 +113,7 @@ public final class LimitTrees {
             return false;
         }
         net.root = v;
-        goods.forget();
+        forgetMeasures();
         return true;
     }
 
@@ -130,7 +131,7 @@ public final class LimitTrees {
             return false;
         }
         net.demand[v] = n;
-        goods.forget();
+        forgetMeasures();
         return true;
     }
 
@@ -157,17 +158,22 @@ public final class LimitTrees {
         if (!net.hasLines(set)) {
             return NONE;
         }
-        return shape.takes(set) ? 1 : 0;
+        return isTree(set) ? 1 : 0;
     }
 
     public int breaks(int set) {
-        return shape.takes(set) ? limits.brokenBy(set, net, shape) : NONE;
+        if (!isTree(set)) {
+            return NONE;
+        }
+        shape.walk(set);
+        return limits.brokenBy(net, set, shape.depth, shape.load, shape.way);
     }
 
     public int measure(int set, int what) {
-        if (!shape.takes(set)) {
+        if (!isTree(set)) {
             return NONE;
         }
+        shape.walk(set);
         switch (what) {
             case 0: return shape.price;
             case 1: return net.mostLinesAtAPost(set);
@@ -186,12 +192,12 @@ public final class LimitTrees {
 
     public int good(int i) {
         judge();
-        return i >= 0 && i < goods.many ? goods.sets[i] : NONE;
+        return within(i, 0, goods.many - 1) ? list.sets[goods.places[i]] : NONE;
     }
 
     public int ranked(int i) {
         judge();
-        return i >= 0 && i < goods.many ? goods.sets[goods.placeRanked(i)] : NONE;
+        return within(i, 0, goods.many - 1) ? list.sets[goods.placeRanked(i)] : NONE;
     }
 
     public int slack(int e) {
@@ -208,32 +214,30 @@ public final class LimitTrees {
     }
 
     public int front(int i, int what) {
-        if (i < 0 || !within(what, 0, 2)) {
-            return NONE;
-        }
         judge();
-        int place = goods.placeOnFront(i);
+        int place = i < 0 ? NONE : goods.placeOnFront(i);
         if (place == NONE) {
             return NONE;
         }
         switch (what) {
-            case 0: return goods.sets[place];
-            case 1: return net.priceOf(goods.sets[place]);
-            default: return goods.ways[place];
+            case 0: return list.sets[place];
+            case 1: return list.prices[place];
+            case 2: return list.ways[place];
+            default: return NONE;
         }
     }
 
     public int swaps(int a, int b) {
         judge();
-        int start = goods.placeOf(a);
-        int end = goods.placeOf(b);
+        int start = goods.placeOfGood(a);
+        int end = goods.placeOfGood(b);
         return start == NONE || end == NONE ? NONE : route.length(start, end);
     }
 
     public int step(int a, int b, int i) {
         judge();
-        int start = goods.placeOf(a);
-        int end = goods.placeOf(b);
+        int start = goods.placeOfGood(a);
+        int end = goods.placeOfGood(b);
         return start == NONE || end == NONE ? NONE : route.treeAt(start, end, i);
     }
 
@@ -255,7 +259,7 @@ public final class LimitTrees {
         switch (what) {
             case 0: return net.posts;
             case 1: return net.lines;
-            case 2: return Integer.bitCount(net.whole());
+            case 2: return net.lines - Integer.bitCount(net.cut);
             case 3: return net.root;
             case 4: return limits.depth;
             case 5: return limits.load;
@@ -267,21 +271,27 @@ public final class LimitTrees {
         }
     }
 
+    private int wholeTrees() {
+        judge();
+        return goods.ofTrees;
+    }
+
     private int countAtPost(int what) {
-        if (what >= COUNT_DEMAND) {
-            int v = what - COUNT_DEMAND;
-            return net.hasPost(v) ? net.demand[v] : NONE;
+        if (within(what, COUNT_DEGREE, COUNT_DEGREE + net.posts - 1)) {
+            return limits.degree[what - COUNT_DEGREE];
         }
-        if (what >= COUNT_DEGREE) {
-            int v = what - COUNT_DEGREE;
-            return net.hasPost(v) ? limits.degree[v] : NONE;
+        if (within(what, COUNT_DEMAND, COUNT_DEMAND + net.posts - 1)) {
+            return net.demand[what - COUNT_DEMAND];
         }
         return NONE;
     }
 
-    private int wholeTrees() {
-        judge();
-        return goods.trees;
+    private static boolean within(int n, int least, int most) {
+        return n >= least && n <= most;
+    }
+
+    private static int lowest(int bits) {
+        return Integer.bitCount((bits & -bits) - 1);
     }
 
     private void startAnew(int n) {
@@ -291,8 +301,17 @@ public final class LimitTrees {
         goods.forget();
     }
 
-    private static boolean within(int n, int least, int most) {
-        return n >= least && n <= most;
+    private void forgetMeasures() {
+        list.forgetMeasures();
+        goods.forget();
+    }
+
+    private boolean isTree(int set) {
+        if (!net.hasLines(set) || (set & net.cut) != 0) {
+            return false;
+        }
+        list.catchUp();
+        return list.placeOf(set) != NONE;
     }
 
     /** Finds the good trees anew if something has changed since they were found. */
@@ -301,15 +320,9 @@ public final class LimitTrees {
             return;
         }
         list.catchUp();
-        goods.clear();
+        list.measureAll(shape);
+        goods.find();
         route.forget();
-        for (int i = 0; i < list.many; i++) {
-            int set = list.sets[i];
-            if (shape.takes(set)) {
-                goods.take(set, limits.brokenBy(set, net, shape), shape);
-            }
-        }
-        goods.rank();
     }
 
     /** The posts with their demands, the root, and the lines. */
@@ -335,7 +348,7 @@ public final class LimitTrees {
             Arrays.fill(linesAt, 0);
         }
 
-        /** Its callers have looked at all four, and at the room for one more. */
+        /** The caller has looked at all four, and that there is room for one more. */
         int addLine(int a, int b, int itsPrice, int colour) {
             int e = lines;
             from[e] = a;
@@ -364,10 +377,6 @@ public final class LimitTrees {
             return (cut >> e & 1) != 0;
         }
 
-        int whole() {
-            return (1 << lines) - 1 & ~cut;
-        }
-
         int redsIn(int set) {
             return Integer.bitCount(set & red);
         }
@@ -379,16 +388,6 @@ public final class LimitTrees {
             }
             return most;
         }
-
-        int priceOf(int set) {
-            int sum = 0;
-            for (int e = 0; e < lines; e++) {
-                if ((set >> e & 1) != 0) {
-                    sum += price[e];
-                }
-            }
-            return sum;
-        }
     }
 
     /** The numbers told for the five limits. */
@@ -399,9 +398,12 @@ public final class LimitTrees {
         int fewestReds;
         int mostReds;
         int way;
+        // As bits, the posts whose number a tree can exceed at all: most often there are few of them.
+        private int tightPosts;
 
         void clear() {
             Arrays.fill(degree, MOST_DEGREE);
+            tightPosts = 0;
             depth = MOST_DEPTH;
             load = MOST_LOAD;
             fewestReds = 0;
@@ -409,31 +411,40 @@ public final class LimitTrees {
             way = MOST_WAY;
         }
 
-        /** The limits that a tree breaks; the shape is that of this tree. */
-        int brokenBy(int set, Net net, Shape shape) {
+        void setDegree(int v, int n) {
+            degree[v] = n;
+            if (n < MOST_POSTS - 1) {
+                tightPosts |= 1 << v;
+            } else {
+                tightPosts &= ~(1 << v);
+            }
+        }
+
+        int brokenBy(Net net, int tree, int itsDepth, int itsLoad, int itsWay) {
             int broken = 0;
-            if (hasCrowdedPost(set, net)) {
+            if (hasCrowdedPost(net, tree)) {
                 broken |= DEGREES_BIT;
             }
-            if (shape.depth > depth) {
+            if (itsDepth > depth) {
                 broken |= DEPTH_BIT;
             }
-            if (shape.load > load) {
+            if (itsLoad > load) {
                 broken |= LOAD_BIT;
             }
-            int redLines = net.redsIn(set);
-            if (redLines < fewestReds || redLines > mostReds) {
+            int itsReds = net.redsIn(tree);
+            if (itsReds < fewestReds || itsReds > mostReds) {
                 broken |= REDS_BIT;
             }
-            if (shape.way > way) {
+            if (itsWay > way) {
                 broken |= WAY_BIT;
             }
             return broken;
         }
 
-        private boolean hasCrowdedPost(int set, Net net) {
-            for (int v = 0; v < net.posts; v++) {
-                if (Integer.bitCount(set & net.linesAt[v]) > degree[v]) {
+        private boolean hasCrowdedPost(Net net, int tree) {
+            for (int left = tightPosts; left != 0; left &= left - 1) {
+                int v = lowest(left);
+                if (Integer.bitCount(tree & net.linesAt[v]) > degree[v]) {
                     return true;
                 }
             }
@@ -448,88 +459,58 @@ public final class LimitTrees {
         int load;
         int way;
         private final Net net;
-        private final int[] row = new int[MOST_POSTS];
-        private final int[] depthOf = new int[MOST_POSTS];
-        private final int[] wayOf = new int[MOST_POSTS];
-        private final int[] branchOf = new int[MOST_POSTS];
-        private final int[] loadOf = new int[MOST_POSTS];
-        private int reached;
 
         Shape(Net net) {
             this.net = net;
         }
 
-        /** Whether a set of lines is a tree; if it is, the shape is that of this tree from now on. */
-        boolean takes(int set) {
-            return net.hasLines(set)
-                && (set & net.cut) == 0
-                && Integer.bitCount(set) == net.posts - 1
-                && walk(set);
-        }
-
-        private boolean walk(int set) {
-            standAtRoot();
-            int seen = 1 << net.root;
-            int left = set;
-            for (int i = 0; i < reached && i < MOST_POSTS; i++) {
-                int v = row[i];
-                int here = left & net.linesAt[v];
-                left ^= here;
-                for (; here != 0; here &= here - 1) {
-                    int e = Integer.bitCount((here & -here) - 1);
-                    int w = net.from[e] + net.to[e] - v;
-                    if ((seen >> w & 1) != 0) {
-                        return false;
-                    }
-                    seen |= 1 << w;
-                    reach(w, v, net.price[e]);
-                }
-            }
-            return reached == net.posts;
-        }
-
-        private void standAtRoot() {
+        void walk(int tree) {
             price = 0;
             depth = 0;
             load = 0;
             way = 0;
-            row[0] = net.root;
-            depthOf[net.root] = 0;
-            wayOf[net.root] = 0;
-            reached = 1;
+            for (int here = tree & net.linesAt[net.root]; here != 0; here &= here - 1) {
+                load = Math.max(load, demandsBehind(lowest(here), net.root, tree, 1, 0));
+            }
         }
 
-        /** Each post is reached once, so the row has room for all. */
-        private void reach(int w, int v, int linePrice) {
-            row[reached] = w;
-            reached++;
-            price += linePrice;
-            depthOf[w] = depthOf[v] + 1;
-            depth = Math.max(depth, depthOf[w]);
-            wayOf[w] = wayOf[v] + linePrice;
-            way = Math.max(way, wayOf[w]);
-            if (v == net.root) {
-                branchOf[w] = w;
-                loadOf[w] = 0;
-            } else {
-                branchOf[w] = branchOf[v];
+        /** Walks all that hangs on line e, which leads away from post v; no tree is deeper than 7 lines. */
+        private int demandsBehind(int e, int v, int lines, int deep, int wayToV) {
+            if (deep >= MOST_POSTS) {
+                return 0;
             }
-            int branch = branchOf[w];
-            loadOf[branch] += net.demand[w];
-            load = Math.max(load, loadOf[branch]);
+            int w = net.from[e] + net.to[e] - v;
+            int wayToW = wayToV + net.price[e];
+            int rest = lines ^ 1 << e;
+            price += net.price[e];
+            depth = Math.max(depth, deep);
+            way = Math.max(way, wayToW);
+            int sum = net.demand[w];
+            for (int here = rest & net.linesAt[w]; here != 0; here &= here - 1) {
+                sum += demandsBehind(lowest(here), w, rest, deep + 1, wayToW);
+            }
+            return sum;
         }
     }
 
     /**
-     * All trees of the net by their bits, those with cut lines too: so a cut needs no new search,
-     * and a new line, whose bit is the highest, only adds trees behind the others.
+     * All trees by their bits (a tree's place is its number here), with what is measured of them. Those
+     * with cut lines are here too: so a cut needs no new search, and a new line, whose bit is the highest,
+     * only adds trees behind the others.
      */
     private static final class TreeList {
         final int[] sets = new int[MOST_TREES];
+        final int[] prices = new int[MOST_TREES];
+        final int[] depths = new int[MOST_TREES];
+        final int[] loads = new int[MOST_TREES];
+        final int[] ways = new int[MOST_TREES];
         int many;
         private final Net net;
+        private final TreeBits bits = new TreeBits();
+        private final int[] firstOfWord = new int[WORDS];
         private final int[] joined = new int[MOST_POSTS * MOST_POSTS];
-        private int listedLines;
+        private int linesListed;
+        private int treesMeasured;
 
         TreeList(Net net) {
             this.net = net;
@@ -537,119 +518,199 @@ public final class LimitTrees {
 
         void clear() {
             many = 0;
-            listedLines = 0;
+            linesListed = 0;
+            treesMeasured = 0;
+            bits.clear();
+        }
+
+        void forgetMeasures() {
+            treesMeasured = 0;
+        }
+
+        void measureAll(Shape shape) {
+            for (int place = treesMeasured; place < many; place++) {
+                shape.walk(sets[place]);
+                prices[place] = shape.price;
+                depths[place] = shape.depth;
+                loads[place] = shape.load;
+                ways[place] = shape.way;
+            }
+            treesMeasured = many;
+        }
+
+        int placeOf(int set) {
+            if (!bits.has(set)) {
+                return NONE;
+            }
+            return firstOfWord[set >> WORD_BITS] + bits.lesserInWordOf(set);
         }
 
         void catchUp() {
-            for (int e = listedLines; e < net.lines; e++) {
+            for (int e = linesListed; e < net.lines; e++) {
                 for (int v = 0; v < net.posts; v++) {
                     joined[v] = 1 << v;
                 }
-                if (joins(e, 0)) {
-                    grow(1, e, 1 << e);
-                }
+                grow(0, e, e + 1, 0);
             }
-            listedLines = net.lines;
-        }
-
-        /** Adds all trees that hold a forest of so many lines and, beside it, lines below one only. */
-        private void grow(int held, int below, int set) {
-            int missing = net.posts - 1 - held;
-            if (missing <= 0) {
-                add(set);
-                return;
-            }
-            for (int e = missing - 1; e < below; e++) {
-                if (joins(e, held)) {
-                    grow(held + 1, e, set | 1 << e);
-                }
-            }
+            linesListed = net.lines;
         }
 
         /**
-         * Whether a line joins what was not joined by so many lines; if so, the next row tells which
-         * posts are joined with it. A tree has at most 7 lines, so the last row is the eighth.
+         * Adds the trees that a set of so many lines makes with others, by their bits: the highest of the
+         * others is at least first and below one. What is missing after it has that many lines below it.
          */
-        private boolean joins(int e, int held) {
-            int row = held * MOST_POSTS;
-            int a = net.from[e];
-            int b = net.to[e];
-            if (held + 1 >= MOST_POSTS || (joined[row + a] >> b & 1) != 0) {
-                return false;
+        private void grow(int held, int first, int below, int set) {
+            int missing = net.posts - 1 - held;
+            for (int e = first; e < below; e++) {
+                if (areJoined(e, held)) {
+                    continue;
+                }
+                if (missing <= 1) {
+                    add(set | 1 << e);
+                } else {
+                    join(e, held);
+                    grow(held + 1, missing - 2, e, set | 1 << e);
+                }
             }
-            int both = joined[row + a] | joined[row + b];
+        }
+
+        /** Row i of what is joined tells, of each post, the posts that i lines join with it, as bits. */
+        private boolean areJoined(int e, int held) {
+            return (joined[held * MOST_POSTS + net.from[e]] >> net.to[e] & 1) != 0;
+        }
+
+        private void join(int e, int held) {
+            int row = held * MOST_POSTS;
+            int both = joined[row + net.from[e]] | joined[row + net.to[e]];
             for (int v = 0; v < net.posts; v++) {
                 joined[row + MOST_POSTS + v] = (both >> v & 1) != 0 ? both : joined[row + v];
             }
-            return true;
         }
 
         private void add(int set) {
-            if (many < MOST_TREES) {
-                sets[many] = set;
-                many++;
+            if (many >= MOST_TREES) {
+                return;
             }
+            if (!bits.hasInWordOf(set)) {
+                firstOfWord[set >> WORD_BITS] = many;
+            }
+            bits.put(set);
+            sets[many] = set;
+            many++;
         }
     }
 
-    /** The good trees by their bits (a tree's place is its number there), and ranked. */
+    /** A set of sets of lines, a bit for each; a shift of a long takes the last six bits of a set, its bit. */
+    private static final class TreeBits {
+        private final long[] words = new long[WORDS];
+
+        void clear() {
+            Arrays.fill(words, 0L);
+        }
+
+        void put(int set) {
+            if (set >>> MOST_LINES == 0) {
+                words[set >> WORD_BITS] |= 1L << set;
+            }
+        }
+
+        void drop(int set) {
+            if (set >>> MOST_LINES == 0) {
+                words[set >> WORD_BITS] &= ~(1L << set);
+            }
+        }
+
+        boolean has(int set) {
+            return set >>> MOST_LINES == 0 && (words[set >> WORD_BITS] >> set & 1L) != 0;
+        }
+
+        boolean hasInWordOf(int set) {
+            return set >>> MOST_LINES == 0 && words[set >> WORD_BITS] != 0;
+        }
+
+        int lesserInWordOf(int set) {
+            return set >>> MOST_LINES == 0 ? Long.bitCount(words[set >> WORD_BITS] & (1L << set) - 1) : 0;
+        }
+    }
+
+    /** The places of the good trees, by their bits and ranked, and what bars the others. */
     private static final class GoodTrees {
-        private static final int WORD_BITS = 6;
-        private static final int WORDS = 1 << MOST_LINES - WORD_BITS;
-        private static final int IN_WORD = (1 << WORD_BITS) - 1;
+        private static final int PLACE_BITS = 11;
         private static final int DIGIT_BITS = 7;
         private static final int DIGITS = 1 << DIGIT_BITS;
 
-        final int[] sets = new int[MOST_TREES];
-        final int[] ways = new int[MOST_TREES];
+        final int[] places = new int[MOST_TREES];
         int many;
-        int trees;
+        int ofTrees;
         boolean known;
+        private final Net net;
+        private final Limits limits;
+        private final TreeList list;
         private final int[] ranks = new int[MOST_TREES];
-        private final int[] spare;
+        private final int[] spare = new int[MOST_TREES];
         private final int[] starts = new int[DIGITS];
-        private final long[] words = new long[WORDS];
-        private final int[] firstOfWord = new int[WORDS];
+        private boolean isRanked;
         private int kindsOfBreaks;
 
-        GoodTrees(int[] spare) {
-            this.spare = spare;
+        GoodTrees(Net net, Limits limits, TreeList list) {
+            this.net = net;
+            this.limits = limits;
+            this.list = list;
         }
 
         void forget() {
             known = false;
         }
 
-        void clear() {
+        /** The list is whole and measured. */
+        void find() {
             many = 0;
-            trees = 0;
+            ofTrees = 0;
             kindsOfBreaks = 0;
-            Arrays.fill(words, 0L);
+            for (int place = 0; place < list.many; place++) {
+                if ((list.sets[place] & net.cut) == 0) {
+                    take(place, brokenAt(place));
+                }
+            }
+            isRanked = false;
+            known = true;
         }
 
-        /** Takes the next tree by bits, with the limits that it breaks. */
-        void take(int set, int broken, Shape shape) {
-            trees++;
+        private void take(int place, int broken) {
+            ofTrees++;
             kindsOfBreaks |= 1 << broken;
-            if (broken != 0 || many >= MOST_TREES) {
+            if (broken == 0) {
+                places[many] = place;
+                many++;
+            }
+        }
+
+        private int brokenAt(int place) {
+            return limits.brokenBy(net, list.sets[place], list.depths[place], list.loads[place], list.ways[place]);
+        }
+
+        int placeOfGood(int set) {
+            int place = list.placeOf(set);
+            boolean isGood = place != NONE && (set & net.cut) == 0 && brokenAt(place) == 0;
+            return isGood ? place : NONE;
+        }
+
+        int placeRanked(int i) {
+            rank();
+            return ranks[i] & (1 << PLACE_BITS) - 1;
+        }
+
+        /** A rank is a price with a place below it; they come by places, and like digits keep their order. */
+        private void rank() {
+            if (isRanked) {
                 return;
             }
-            int word = set >> WORD_BITS;
-            if (words[word] == 0) {
-                firstOfWord[word] = many;
+            for (int i = 0; i < many; i++) {
+                ranks[i] = list.prices[places[i]] << PLACE_BITS | places[i];
             }
-            words[word] |= 1L << (set & IN_WORD);
-            sets[many] = set;
-            ways[many] = shape.way;
-            ranks[many] = shape.price << PLACE_BITS | many;
-            many++;
-        }
-
-        /** By price alone: the trees come by their bits, and each round keeps the order of like ones. */
-        void rank() {
             sortByDigit(ranks, spare, PLACE_BITS);
             sortByDigit(spare, ranks, PLACE_BITS + DIGIT_BITS);
-            known = true;
+            isRanked = true;
         }
 
         private void sortByDigit(int[] source, int[] target, int shift) {
@@ -658,47 +719,28 @@ public final class LimitTrees {
                 starts[source[i] >> shift & DIGITS - 1]++;
             }
             int start = 0;
-            for (int d = 0; d < DIGITS; d++) {
-                int size = starts[d];
-                starts[d] = start;
+            for (int digit = 0; digit < DIGITS; digit++) {
+                int size = starts[digit];
+                starts[digit] = start;
                 start += size;
             }
             for (int i = 0; i < many; i++) {
-                int d = source[i] >> shift & DIGITS - 1;
-                target[starts[d]] = source[i];
-                starts[d]++;
+                int digit = source[i] >> shift & DIGITS - 1;
+                target[starts[digit]] = source[i];
+                starts[digit]++;
             }
         }
 
-        int placeOf(int set) {
-            if (set < 0 || set >= 1 << MOST_LINES) {
-                return NONE;
-            }
-            long word = words[set >> WORD_BITS];
-            long bit = 1L << (set & IN_WORD);
-            if ((word & bit) == 0) {
-                return NONE;
-            }
-            return firstOfWord[set >> WORD_BITS] + Long.bitCount(word & bit - 1);
-        }
-
-        int placeRanked(int i) {
-            return ranks[i] & MOST_TREES - 1;
-        }
-
-        private int priceRanked(int i) {
-            return ranks[i] >> PLACE_BITS;
-        }
-
-        private int lineOfRanked(int i, int e) {
-            return sets[placeRanked(i)] >> e & 1;
-        }
-
-        /** The first ranked tree that has the line if the best has it not, or has it not if the best has. */
+        /** In their ranks the first tree that is not like the best in having the line, or not. */
         int slackOf(int e) {
+            if (many == 0) {
+                return NONE;
+            }
+            int best = placeRanked(0);
             for (int i = 1; i < many; i++) {
-                if (lineOfRanked(i, e) != lineOfRanked(0, e)) {
-                    return priceRanked(i) - priceRanked(0);
+                int place = placeRanked(i);
+                if (((list.sets[place] ^ list.sets[best]) >> e & 1) != 0) {
+                    return list.prices[place] - list.prices[best];
                 }
             }
             return NONE;
@@ -725,41 +767,43 @@ public final class LimitTrees {
         }
 
         /**
-         * The place of the i-th tree of the front. By price, a tree is on it if its way is less than all
-         * before; a later one of the same price with a still lesser way stands in its stead.
+         * The place of the i-th tree of the front. In their ranks a tree is on it if its way is less than
+         * all before; a later one of the same price with a still lesser way stands in its stead.
          */
         int placeOnFront(int i) {
             int found = NONE;
             int last = NONE;
             for (int k = 0; k < many; k++) {
-                if (last != NONE && ways[placeRanked(k)] >= ways[placeRanked(last)]) {
+                int place = placeRanked(k);
+                if (last != NONE && list.ways[place] >= list.ways[last]) {
                     continue;
                 }
-                if (last == NONE || priceRanked(k) != priceRanked(last)) {
+                if (last == NONE || list.prices[place] > list.prices[last]) {
                     if (found == i) {
-                        break;
+                        return last;
                     }
                     found++;
                 }
-                last = k;
+                last = place;
             }
-            return found == i && last != NONE ? placeRanked(last) : NONE;
+            return found == i ? last : NONE;
         }
     }
 
-    /** Ways by swaps from good trees to one of them, the goal: searched from there, as far as asked. */
+    /** Ways by swaps from good trees to one of them, the goal: sought from there, as far as was asked. */
     private static final class Route {
+        private final TreeList list;
         private final GoodTrees goods;
         private final int[] far = new int[MOST_TREES];
-        private final int[] queue;
+        private final TreeBits unreached = new TreeBits();
         private int goal = NONE;
-        private int head;
-        private int tail;
         private int linesUsed;
+        private int layer;
+        private boolean isSpreading;
 
-        Route(GoodTrees goods, int[] spare) {
+        Route(TreeList list, GoodTrees goods) {
+            this.list = list;
             this.goods = goods;
-            queue = spare;
         }
 
         void forget() {
@@ -770,8 +814,8 @@ public final class LimitTrees {
             if (goal != end) {
                 standAt(end);
             }
-            for (; far[start] == NONE && head < tail && head < MOST_TREES; head++) {
-                spread(queue[head]);
+            for (; far[start] == NONE && isSpreading && layer < MOST_TREES; layer++) {
+                spreadLayer();
             }
             return far[start];
         }
@@ -784,45 +828,61 @@ public final class LimitTrees {
             for (int k = 0; k < i; k++) {
                 place = nextOf(place);
             }
-            return goods.sets[place];
+            return list.sets[place];
         }
 
         private void standAt(int end) {
             goal = end;
             linesUsed = 0;
+            unreached.clear();
             for (int i = 0; i < goods.many; i++) {
-                far[i] = NONE;
-                linesUsed |= goods.sets[i];
+                int place = goods.places[i];
+                far[place] = NONE;
+                linesUsed |= list.sets[place];
+                unreached.put(list.sets[place]);
             }
             far[end] = 0;
-            queue[0] = end;
-            head = 0;
-            tail = 1;
+            unreached.drop(list.sets[end]);
+            layer = 0;
+            isSpreading = true;
         }
 
-        private void spread(int place) {
-            int set = goods.sets[place];
-            for (int outs = set; outs != 0; outs &= outs - 1) {
-                int rest = set ^ outs & -outs;
-                for (int ins = linesUsed & ~set; ins != 0; ins &= ins - 1) {
-                    reach(goods.placeOf(rest | ins & -ins), far[place] + 1);
+        private void spreadLayer() {
+            isSpreading = false;
+            for (int i = 0; i < goods.many; i++) {
+                if (far[goods.places[i]] == layer) {
+                    spread(list.sets[goods.places[i]]);
                 }
             }
         }
 
-        private void reach(int place, int swapsToGoal) {
-            if (place != NONE && far[place] == NONE && tail < MOST_TREES) {
-                far[place] = swapsToGoal;
-                queue[tail] = place;
-                tail++;
+        private void spread(int set) {
+            for (int outs = set; outs != 0; outs &= outs - 1) {
+                int rest = set ^ outs & -outs;
+                for (int ins = linesUsed & ~set; ins != 0; ins &= ins - 1) {
+                    int other = rest | ins & -ins;
+                    if (unreached.has(other)) {
+                        reach(other);
+                    }
+                }
             }
         }
 
-        /** The least tree one swap on that is nearer to the goal: the search has reached all of these. */
+        private void reach(int set) {
+            int place = list.placeOf(set);
+            if (place != NONE) {
+                far[place] = layer + 1;
+                unreached.drop(set);
+                isSpreading = true;
+            }
+        }
+
+        /** The least tree, one swap on, that is nearer to the goal: all that are nearer have been reached. */
         private int nextOf(int place) {
             for (int i = 0; i < goods.many; i++) {
-                if (far[i] == far[place] - 1 && Integer.bitCount(goods.sets[i] ^ goods.sets[place]) == 2) {
-                    return i;
+                int next = goods.places[i];
+                if (far[next] == far[place] - 1 && Integer.bitCount(list.sets[next] ^ list.sets[place]) == 2) {
+                    return next;
                 }
             }
             return place;

@@ -1,0 +1,28 @@
+/** Counts the answers that are not as due; each test prints them and ends with exit code 1 if there was one. */
+final class Due {
+    private final String test;
+    private int right;
+    private int wrong;
+
+    Due(String test) {
+        this.test = test;
+    }
+
+    void is(String what, long got, long want) {
+        if (got == want) {
+            right++;
+            return;
+        }
+        wrong++;
+        System.out.println(test + ": " + what + " answered " + got + ", due is " + want);
+    }
+
+    void is(String what, boolean got, boolean want) {
+        is(what, got ? 1 : 0, want ? 1 : 0);
+    }
+
+    void end() {
+        System.out.println(test + ": " + right + " answers as due, " + wrong + " not");
+        if (wrong != 0) System.exit(1);
+    }
+}
