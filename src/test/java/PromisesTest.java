@@ -1,6 +1,6 @@
 /** Promise by promise, on nets small enough to be reckoned by hand: what is ordinary, the edges, what is wrong. */
 public final class PromisesTest {
-    private static final int NONE = LimitTrees.NONE;
+    private static final int NONE = -1;
     private static final int[] WRONG = {Integer.MIN_VALUE, -1, Integer.MAX_VALUE};
 
     private final Due due = new Due("promises");
@@ -39,34 +39,6 @@ public final class PromisesTest {
         test.due.end();
     }
 
-    /**
-     * Lines 0: 0-1 at 5, plain; 1: 1-2 at 3, red; 2: 2-0 at 4, red. Its trees: 3 (5 + 3; the row 0-1-2),
-     * 5 (5 + 4; both at post 0), 6 (3 + 4; the row 0-2-1).
-     */
-    private static LimitTrees triangle() {
-        LimitTrees x = new LimitTrees();
-        x.posts(3);
-        x.line(0, 1, 5, 0);
-        x.line(1, 2, 3, 1);
-        x.line(2, 0, 4, 1);
-        return x;
-    }
-
-    /**
-     * Lines 0, 1, 2 between 0 and 1 at 10, 1, 1, the first and last red; 3, 4 between 1 and 2 at 1, 5, the
-     * last red. A tree is one of each: 9, 10, 12, 17, 18, 20.
-     */
-    private static LimitTrees twice() {
-        LimitTrees x = new LimitTrees();
-        x.posts(3);
-        x.line(0, 1, 10, 1);
-        x.line(0, 1, 1, 0);
-        x.line(0, 1, 1, 1);
-        x.line(1, 2, 1, 0);
-        x.line(1, 2, 5, 1);
-        return x;
-    }
-
     private void goods(String when, LimitTrees x, int... sets) {
         due.is(when + " many()", x.many(), sets.length);
         for (int i = 0; i < sets.length; i++) due.is(when + " good(" + i + ")", x.good(i), sets[i]);
@@ -94,7 +66,7 @@ public final class PromisesTest {
 
     private void p02Posts() {
         for (int n = 2; n <= 8; n++) {
-            LimitTrees x = triangle();
+            LimitTrees x = Nets.triangle();
             x.cut(1, true);
             x.degree(1, 2);
             x.depth(3);
@@ -110,7 +82,7 @@ public final class PromisesTest {
             due.is("look(0, 4) after posts", x.look(0, 4), 0);
             due.is("count(9) after posts", x.count(9), n == 2 ? 1 : 0);
         }
-        LimitTrees x = triangle();
+        LimitTrees x = Nets.triangle();
         for (int n : new int[] {1, 0, 9, -1, Integer.MIN_VALUE, Integer.MAX_VALUE}) due.is("posts(" + n + ")", x.posts(n), false);
         goods("after posts refused", x, 3, 5, 6);
     }
@@ -139,7 +111,7 @@ public final class PromisesTest {
     }
 
     private void p04Cut() {
-        LimitTrees x = triangle();
+        LimitTrees x = Nets.triangle();
         due.is("whole already", x.cut(0, false), false);
         due.is("cut", x.cut(0, true), true);
         due.is("cut already", x.cut(0, true), false);
@@ -158,7 +130,7 @@ public final class PromisesTest {
     }
 
     private void p05Price() {
-        LimitTrees x = triangle();
+        LimitTrees x = Nets.triangle();
         due.is("best", x.ranked(0), 6);
         due.is("price", x.price(1, 999), true);
         due.is("look", x.look(1, 2), 999);
@@ -180,7 +152,7 @@ public final class PromisesTest {
     }
 
     private void p06Degree() {
-        LimitTrees x = triangle();
+        LimitTrees x = Nets.triangle();
         due.is("degree", x.degree(0, 1), true);
         goods("degree(0, 1)", x, 3, 6);
         due.is("degree", x.degree(1, 1), true);
@@ -215,7 +187,7 @@ public final class PromisesTest {
     }
 
     private void p07Depth() {
-        LimitTrees x = triangle();
+        LimitTrees x = Nets.triangle();
         due.is("depth", x.depth(1), true);
         goods("depth(1)", x, 5);
         due.is("depth", x.depth(2), true);
@@ -238,7 +210,7 @@ public final class PromisesTest {
     }
 
     private void p08Root() {
-        LimitTrees x = triangle();
+        LimitTrees x = Nets.triangle();
         x.depth(1);
         goods("root 0", x, 5);
         due.is("root", x.root(1), true);
@@ -253,7 +225,7 @@ public final class PromisesTest {
     }
 
     private void p09Load() {
-        LimitTrees x = triangle();
+        LimitTrees x = Nets.triangle();
         due.is("load", x.load(1), true);
         goods("load(1)", x, 5);
         due.is("load", x.load(2), true);
@@ -267,7 +239,7 @@ public final class PromisesTest {
     }
 
     private void p10Demand() {
-        LimitTrees x = triangle();
+        LimitTrees x = Nets.triangle();
         x.load(3);
         due.is("demand of the root", x.demand(0, 99), true);
         goods("the root's own hangs on no line", x, 3, 5, 6);
@@ -288,7 +260,7 @@ public final class PromisesTest {
     }
 
     private void p11Reds() {
-        LimitTrees x = triangle();
+        LimitTrees x = Nets.triangle();
         due.is("reds", x.reds(2, 14), true);
         goods("reds(2, 14)", x, 6);
         due.is("reds", x.reds(0, 1), true);
@@ -313,7 +285,7 @@ public final class PromisesTest {
     }
 
     private void p12Way() {
-        LimitTrees x = triangle();
+        LimitTrees x = Nets.triangle();
         due.is("way", x.way(7), true);
         goods("way(7)", x, 5, 6);
         due.is("way", x.way(6), true);
@@ -331,7 +303,7 @@ public final class PromisesTest {
     }
 
     private void p13Tree() {
-        LimitTrees x = triangle();
+        LimitTrees x = Nets.triangle();
         int[] answers = {0, 0, 0, 1, 0, 1, 1, 0, NONE};
         for (int set = 0; set < answers.length; set++) due.is("tree(" + set + ")", x.tree(set), answers[set]);
         for (int set : WRONG) due.is("tree(" + set + ")", x.tree(set), NONE);
@@ -341,7 +313,7 @@ public final class PromisesTest {
         due.is("a cut line is no such line of a tree", x.tree(3), 0);
         due.is("but it is a line", x.tree(1), 0);
         due.is("tree(6)", x.tree(6), 1);
-        LimitTrees two = twice();
+        LimitTrees two = Nets.twice();
         due.is("a ring of two lines", two.tree(3), 0);
         due.is("tree(9)", two.tree(9), 1);
         LimitTrees four = new LimitTrees();
@@ -356,7 +328,7 @@ public final class PromisesTest {
     }
 
     private void p14Breaks() {
-        LimitTrees x = triangle();
+        LimitTrees x = Nets.triangle();
         due.is("breaks", x.breaks(3), 0);
         x.degree(1, 1);
         due.is("DEGREES", x.breaks(3), 1);
@@ -379,7 +351,7 @@ public final class PromisesTest {
     }
 
     private void p15Measure() {
-        LimitTrees x = triangle();
+        LimitTrees x = Nets.triangle();
         int[][] measures = {{3, 8, 2, 2, 2, 1, 8}, {5, 9, 2, 1, 1, 1, 5}, {6, 7, 2, 2, 2, 2, 7}};
         for (int[] row : measures) {
             for (int what = 0; what < 6; what++) {
@@ -425,7 +397,7 @@ public final class PromisesTest {
     }
 
     private void p17Good() {
-        LimitTrees x = twice();
+        LimitTrees x = Nets.twice();
         goods("all", x, 9, 10, 12, 17, 18, 20);
         for (int i : WRONG) due.is("good(" + i + ")", x.good(i), NONE);
         x.reds(1, 1);
@@ -435,7 +407,7 @@ public final class PromisesTest {
     }
 
     private void p18Ranked() {
-        LimitTrees x = twice();
+        LimitTrees x = Nets.twice();
         int[] row = {10, 12, 18, 20, 9, 17};
         for (int i = 0; i < row.length; i++) due.is("ranked(" + i + ")", x.ranked(i), row[i]);
         due.is("ranked(6)", x.ranked(6), NONE);
@@ -458,7 +430,7 @@ public final class PromisesTest {
     }
 
     private void p19Slack() {
-        LimitTrees x = triangle();
+        LimitTrees x = Nets.triangle();
         due.is("not in the best", x.slack(0), 1);
         due.is("in the best", x.slack(1), 2);
         due.is("in the best", x.slack(2), 1);
@@ -475,14 +447,14 @@ public final class PromisesTest {
         due.is("no good tree with it", x.slack(1), NONE);
         x.depth(0);
         due.is("no good tree", x.slack(0), NONE);
-        LimitTrees two = twice();
+        LimitTrees two = Nets.twice();
         due.is("like prices", two.slack(1), 0);
         due.is("like prices", two.slack(2), 0);
         due.is("far dearer", two.slack(0), 9);
     }
 
     private void p20Bar() {
-        LimitTrees x = triangle();
+        LimitTrees x = Nets.triangle();
         due.is("there is a good tree", x.bar(), NONE);
         x.degree(0, 1);
         x.depth(1);
@@ -500,7 +472,7 @@ public final class PromisesTest {
         due.is("no tree at all", x.bar(), 0);
         x.cut(1, false);
         due.is("a tree again", x.bar(), 4);
-        LimitTrees y = triangle();
+        LimitTrees y = Nets.triangle();
         y.degree(0, 1);
         y.degree(1, 1);
         y.reds(0, 1);
@@ -524,7 +496,7 @@ public final class PromisesTest {
     }
 
     private void p21Front() {
-        LimitTrees x = triangle();
+        LimitTrees x = Nets.triangle();
         int[][] row = {{6, 7, 7}, {5, 9, 5}, {NONE, NONE, NONE}};
         for (int i = 0; i < row.length; i++) {
             for (int what = 0; what < 3; what++) due.is("front(" + i + ", " + what + ")", x.front(i, what), row[i][what]);
@@ -539,13 +511,13 @@ public final class PromisesTest {
         due.is("and no other", x.front(1, 0), NONE);
         x.depth(0);
         due.is("no good tree", x.front(0, 0), NONE);
-        LimitTrees two = twice();
+        LimitTrees two = Nets.twice();
         due.is("alike in both, the first by bits", two.front(0, 0), 10);
         due.is("alike in both, the first by bits", two.front(1, 0), NONE);
     }
 
     private void p22Swaps() {
-        LimitTrees x = twice();
+        LimitTrees x = Nets.twice();
         due.is("one", x.swaps(9, 9), 0);
         due.is("one line", x.swaps(9, 10), 1);
         due.is("two lines", x.swaps(9, 18), 2);
@@ -574,7 +546,7 @@ public final class PromisesTest {
     }
 
     private void p23Step() {
-        LimitTrees x = twice();
+        LimitTrees x = Nets.twice();
         steps(x, 9);
         steps(x, 9, 10, 18);
         steps(x, 18, 10, 9);
@@ -603,7 +575,7 @@ public final class PromisesTest {
     }
 
     private void p24Look() {
-        LimitTrees x = triangle();
+        LimitTrees x = Nets.triangle();
         x.cut(2, true);
         int[][] lines = {{0, 1, 5, 0, 0, NONE}, {1, 2, 3, 1, 0, NONE}, {2, 0, 4, 1, 1, NONE}};
         for (int e = 0; e < 3; e++) {
@@ -615,7 +587,7 @@ public final class PromisesTest {
     }
 
     private void p25Count() {
-        LimitTrees x = triangle();
+        LimitTrees x = Nets.triangle();
         x.cut(1, true);
         x.root(1);
         x.depth(2);
@@ -644,7 +616,7 @@ public final class PromisesTest {
     }
 
     private void refusedCallsChangeNothing() {
-        LimitTrees x = triangle();
+        LimitTrees x = Nets.triangle();
         x.posts(1);
         x.line(0, 0, 1, 0);
         x.line(0, 1, 1, 2);
@@ -667,7 +639,7 @@ public final class PromisesTest {
 
     /** Each question is the first one after a change. */
     private void eachAnswerIsFresh() {
-        LimitTrees x = triangle();
+        LimitTrees x = Nets.triangle();
         due.is("good", x.good(2), 6);
         x.cut(0, true);
         due.is("good", x.good(0), 6);
@@ -707,7 +679,7 @@ public final class PromisesTest {
     }
 
     private void nothingOfTheLastNetIsLeft() {
-        LimitTrees x = triangle();
+        LimitTrees x = Nets.triangle();
         x.degree(0, 1);
         due.is("many", x.many(), 2);
         due.is("swaps", x.swaps(3, 6), 1);
@@ -724,8 +696,8 @@ public final class PromisesTest {
     }
 
     private void objectsAreApart() {
-        LimitTrees x = triangle();
-        LimitTrees y = twice();
+        LimitTrees x = Nets.triangle();
+        LimitTrees y = Nets.twice();
         x.depth(1);
         goods("the one", x, 5);
         goods("the other", y, 9, 10, 12, 17, 18, 20);
