@@ -44,6 +44,10 @@ public final class RulesTest {
     private static final String[] FORBIDDEN = {"\\bthrow\\b", "\\btry\\b", "\\bcatch\\b", "\\bsynchronized\\b", "\\bassert\\b",
         "->", "::", "\\bstatic\\s*\\{", "\\bpackage\\b", "\\bRandom\\b", "\\bThread\\b", "\\bException\\b", "Exact\\b",
         "\\bprotected\\b", "\\bSystem\\.(?!arraycopy)", "\\bimport (?!java\\.util\\.(Arrays|ArrayList|List);)"};
+    // a capital before the point: a class of the library, since no class inside has static methods that are called so
+    private static final Pattern LIBRARY_CALL = Pattern.compile("\\b([A-Z]\\w*[a-z]\\w*)\\.([a-z]\\w*)\\(");
+    private static final Set<String> LIBRARY = Set.of("Integer.bitCount", "Long.bitCount", "Math.max", "Arrays.fill");
+    private static final Pattern DOCUMENTS_FACE = Pattern.compile("(?s)## The public face\\s+```java\\n(.*?)```");
     private static final int LONGEST_METHOD = 60;
     private static final int MOST_PARAMETERS = 7;
     // 512 calls, were each of them a constructor, must not fill the room of 7.3 million elements
@@ -53,6 +57,7 @@ public final class RulesTest {
 
     public static void main(String[] args) throws Exception {
         lookAtFace();
+        lookAtDocument(Files.readString(Path.of("../shared/DOC.md")));
         lookAtNames();
         lookAtText(Files.readString(Path.of("src/main/java/LimitTrees.java")));
         lookAtRoom();
@@ -77,6 +82,24 @@ public final class RulesTest {
         }
         DUE.is("the face is " + seen + ", is it the document's:", seen.equals(FACE), true);
         DUE.is("public and final", LimitTrees.class.getModifiers(), Modifier.PUBLIC | Modifier.FINAL);
+    }
+
+    /** FACE above is what the document has, so that a change there is seen here. */
+    private static void lookAtDocument(String document) {
+        Matcher block = DOCUMENTS_FACE.matcher(document);
+        if (!block.find()) {
+            DUE.fails("the document has no face");
+            return;
+        }
+        List<String> lines = block.group(1).lines().map(String::strip).toList();
+        DUE.is("the face begins with the class", lines.get(0).equals("public final class LimitTrees {"), true);
+        DUE.is("the face ends with it", lines.get(lines.size() - 1).equals("}"), true);
+        Set<String> told = new TreeSet<>();
+        for (String line : lines.subList(1, lines.size() - 1)) {
+            String bare = line.replaceAll(" = .*|;", "");
+            told.add(bare.replaceAll("\\b(int|boolean) \\w+(?=[,)])", "$1").replace(", ", ","));
+        }
+        DUE.is("the document's face is " + told + ", is it FACE:", told.equals(FACE), true);
     }
 
     private static String types(Class<?>[] types) {
@@ -112,6 +135,11 @@ public final class RulesTest {
     private static void lookAtText(String text) {
         String bare = text.replaceAll("(?s)/\\*.*?\\*/", "").replaceAll("//[^\n]*", "");
         for (String word : FORBIDDEN) DUE.is("the file has " + word, Pattern.compile(word).matcher(bare).find(), false);
+        Matcher call = LIBRARY_CALL.matcher(bare);
+        while (call.find()) {
+            String name = call.group(1) + "." + call.group(2);
+            DUE.is(name + " is of the library that LANGUAGE.md leaves", LIBRARY.contains(name), true);
+        }
         Matcher method = Pattern.compile("(?m)^( {4}| {8})(?:[a-z]\\w*[\\[\\]]* )+\\w+\\([^)]*\\) \\{\n(?s:.*?)^\\1\\}").matcher(text);
         int methods = 0;
         while (method.find()) {
